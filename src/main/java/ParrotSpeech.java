@@ -777,13 +777,7 @@ public final class ParrotSpeech {
 
         /** The other birds that this one may hear: no bird of another perch can change what it knows. */
         int hearable(int bird) {
-            int set = 0;
-            for (int b = 0; b < birds; b++) {
-                if (b != bird && isAwakeOn(b, standsOn[bird])) {
-                    set |= 1 << b;
-                }
-            }
-            return set;
+            return awakeOn(standsOn[bird]) & ~(1 << bird);
         }
 
         void passEvening(Speech speech) {
@@ -792,8 +786,9 @@ public final class ParrotSpeech {
             }
             speech.clear();
             for (int perch = 0; perch < PERCHES; perch++) {
-                if (!isSilenced(perch)) {
-                    speakOn(perch, speech);
+                int awake = awakeOn(perch);
+                if (!isSilenced(awake)) {
+                    speakOn(perch, awake, speech);
                 }
             }
             if (evening % 3 == 2) {
@@ -816,29 +811,36 @@ public final class ParrotSpeech {
             }
         }
 
-        private boolean isAwakeOn(int bird, int perch) {
-            return standsOn[bird] == perch && !isCovered(bird);
+        /** The birds that stand there and are not covered, by bits. */
+        private int awakeOn(int perch) {
+            int awake = 0;
+            for (int b = 0; b < birds; b++) {
+                if (standsOn[b] == perch) {
+                    awake |= 1 << b;
+                }
+            }
+            return awake & ~covered;
         }
 
-        private boolean isSilenced(int perch) {
+        private boolean isSilenced(int awake) {
             for (int b = 0; b < birds; b++) {
-                if (kind[b] == HAWK && isAwakeOn(b, perch)) {
+                if ((awake >> b & 1) == 1 && kind[b] == HAWK) {
                     return true;
                 }
             }
             return false;
         }
 
-        private void speakOn(int perch, Speech speech) {
+        private void speakOn(int perch, int awake, Speech speech) {
             for (int b = 0; b < birds; b++) {
-                if (isAwakeOn(b, perch)) {
-                    speak(b, perch, speech);
+                if ((awake >> b & 1) == 1) {
+                    speak(b, perch, awake & ~(1 << b), speech);
                 }
             }
         }
 
         /** A bird never hears itself, so what it says can be found word by word. */
-        private void speak(int bird, int perch, Speech speech) {
+        private void speak(int bird, int perch, int hearers, Speech speech) {
             int alreadySaid = 0;
             for (int turn = 0; turn < SAYS[kind[bird]]; turn++) {
                 int word = bestKnown(bird, alreadySaid);
@@ -847,7 +849,7 @@ public final class ParrotSpeech {
                 }
                 alreadySaid |= 1 << word;
                 speech.add(perch, word);
-                spread(bird, perch, word);
+                spread(word, hearers);
             }
         }
 
@@ -855,17 +857,18 @@ public final class ParrotSpeech {
             int best = NONE;
             int most = 0;
             for (int word = 0; word < WORDS; word++) {
-                if ((without >> word & 1) == 0 && knowledge(bird, word) > most) {
-                    most = knowledge(bird, word);
+                int by = knows[bird * WORDS + word];
+                if (by > most && (without >> word & 1) == 0) {
+                    most = by;
                     best = word;
                 }
             }
             return best;
         }
 
-        private void spread(int speaker, int perch, int word) {
+        private void spread(int word, int hearers) {
             for (int b = 0; b < birds; b++) {
-                if (b != speaker && isAwakeOn(b, perch)) {
+                if ((hearers >> b & 1) == 1) {
                     learn(b, word, HEARS[kind[b]]);
                 }
             }
