@@ -151,6 +151,15 @@ public final class ForetoldTest {
             due.is("of(0, 0) of " + tongues[i], x.of(0, 0), whole[i]);
             due.is("of(0, 1) of " + tongues[i], x.of(0, 1), longest[i]);
         }
+        // On perch 0: a a a b. Of several ways to begin, the shorter is the one that goes on.
+        ParrotSpeech y = Due.harbour("parrot 0;parrot 0;parrot 0;parrot 0;knows 0 a 9;knows 1 a 9;knows 2 a 9;knows 3 b 9");
+        Due.tongue(y, "(a|aa)aab");
+        due.is("of(0, 0)", y.of(0, 0), 1);
+        Due.tongue(y, "(a|aa)ab");
+        due.is("of(0, 0)", y.of(0, 0), 1);
+        Due.tongue(y, "(a|aaa)(a|ab)");
+        due.is("of(0, 0)", y.of(0, 0), 0);
+        due.is("of(0, 1)", y.of(0, 1), 2);
         Due.tongue(x, "a*");
         due.is("of(1, 0)", x.of(1, 0), 1);
         due.is("of(1, 1)", x.of(1, 1), 0);
