@@ -50,12 +50,13 @@ final class Due {
         }
     }
 
-    /** All that count(), bird(), man(), known() tell now, to see whether a call changed anything. */
+    /** All that can be asked for without changing it, to see whether a call changed anything. */
     static String state(ParrotSpeech x) {
         StringBuilder all = new StringBuilder();
         for (int what = 0; what < 10; what++) {
             all.append(x.count(what)).append(' ');
         }
+        all.append(x.fault(0)).append(' ').append(x.fault(1)).append(' ');
         for (int b = 0; b < x.count(0); b++) {
             for (int what = 0; what < 5; what++) {
                 all.append(x.bird(b, what)).append(' ');
@@ -63,9 +64,31 @@ final class Due {
             for (int w = 0; w < 10; w++) {
                 all.append(x.known(b, w, 0)).append(' ');
             }
+            all.append(x.kinds(b)).append(' ');
         }
         for (int m = 0; m < x.count(1); m++) {
             all.append(x.man(m, 0)).append(' ').append(x.man(m, 1)).append(' ');
+        }
+        for (int perch = 0; perch < 4; perch++) {
+            all.append(x.of(perch, 0)).append(' ').append(x.of(perch, 1)).append(' ');
+        }
+        for (int reel = 0; reel < 3; reel++) {
+            all.append(row(x, reel)).append(' ');
+        }
+        return all.toString();
+    }
+
+    /** A reel's places, taken as of each sort up to the first one that there is not. */
+    private static String row(ParrotSpeech x, int reel) {
+        StringBuilder all = new StringBuilder();
+        for (int sort = 0; sort < 4; sort++) {
+            for (int i = 0; i <= 12; i++) {
+                int found = x.play(reel, sort, i);
+                all.append(found).append(' ');
+                if (found == ParrotSpeech.NULL || found == ParrotSpeech.CAST || found == ParrotSpeech.INDEX) {
+                    break;
+                }
+            }
         }
         return all.toString();
     }

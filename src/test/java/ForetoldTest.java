@@ -108,7 +108,7 @@ public final class ForetoldTest {
     private static void clean() {
         due.promise("24 clean");
         ParrotSpeech x = Due.harbour("parrot 0;parrot 0;parrot 0;grey 1;knows 1 a 9;knows 2 a 9;knows 3 a 9");
-        // Two a's an evening, one lost in the third: 2, 4, 6; only one: 1, 2, 2, 3, 4, 4, 5.
+        // Two a's an evening: 2, 4, 6; only one, some lost in the third: 1, 2, 2, 3, 4, 5.
         due.is("clean(0, 0, 2)", x.clean(0, 0, 2), 0);
         due.is("clean(0, 0, 3)", x.clean(0, 0, 3), 2);
         due.is("clean(0, 0, 20)", x.clean(0, 0, 20), 6);
