@@ -1319,7 +1319,7 @@ public final class ParrotSpeech {
             int ends = 0;
             int here = starts;
             int at = from;
-            while (at < to) {
+            for (int step = 0; step < MOST_LETTERS && at < to; step++) {
                 if (signs[at] == '|') {
                     ends |= here;
                     here = starts;

@@ -6,6 +6,7 @@ public final class EveningEdgesTest {
     public static void main(String[] args) {
         getsNineAtMost();
         leastWordFirst();
+        noWordLeft();
         getsNothing();
         menAheadOfPerches();
         hearsNineAtMost();
@@ -74,6 +75,25 @@ public final class EveningEdgesTest {
         y.evening(1);
         due.is("man(0, 0) behind 10", y.man(0, 0), 0);
         due.is("bird(0, 4) behind 10", y.bird(0, 4), 1023);
+    }
+
+    private static void noWordLeft() {
+        due.promise("the least WORD that a MAN HAS, if he HAS none");
+        for (int bird = 0; bird < 8; bird++) {
+            ParrotSpeech x = Due.harbour("grey 0;grey 1;grey 2;grey 3;grey 0;grey 1;grey 2;grey 3;man j;sits 0 " + bird);
+            for (int b = 0; b < 8; b++) {
+                if (b != bird) {
+                    x.cover(b);
+                }
+            }
+            x.evening(12);
+            for (int b = 0; b < 8; b++) {
+                for (int w = 0; w < 10; w++) {
+                    due.is("known(" + b + ", " + w + ", 0)", x.known(b, w, 0), b == bird && w == 9 ? 5 : 0);
+                }
+            }
+            due.is("man(0, 0)", x.man(0, 0), 0);
+        }
     }
 
     private static void getsNothing() {

@@ -27,8 +27,12 @@ public final class ForetoldEdgesTest {
         cleanWithLeast();
         cleanOfCoveredOnes();
         cleanNone();
+        foretoldFromNow();
         ofNothingSaid();
         ofAllSaid();
+        ofDeepBrackets();
+        ofBlanks();
+        ofSums();
         ofLongest();
         leftOfAll();
         leftInLowestTerms();
@@ -325,6 +329,32 @@ public final class ForetoldEdgesTest {
         due.is("clean(0, 0, 1)", z.clean(0, 0, 1), 0);
     }
 
+    private static void foretoldFromNow() {
+        due.promise("FORETOLD, nothing but EVENINGS being done from now");
+        ParrotSpeech x = Due.harbour("grey 0;grey 1;knows 1 a 9;knows 0 a 4;man ab;hawk 2");
+        due.is("clean(0, 0, 1)", x.clean(0, 0, 1), 0);
+        x.perch(1, 0);
+        due.is("clean(0, 0, 1), 1 come there", x.clean(0, 0, 1), 2);
+        x.perch(2, 0);
+        due.is("clean(0, 0, 1), a hawk come there", x.clean(0, 0, 1), 0);
+        due.is("keeps(0, 2, 1)", x.keeps(0, 2, 1), 0);
+        due.is("match(1, -1)", x.match(1, NONE), 1);
+        due.is("left(1, 5, 1)", x.left(1, 5, 1), 1);
+        x.teach(2, 1);
+        x.teach(2, 1);
+        due.is("keeps(0, 2, 1), taught", x.keeps(0, 2, 1), 1);
+        due.is("left(1, 5, 1), taught", x.left(1, 5, 1), 2);
+        x.teach(2, 0);
+        x.teach(2, 0);
+        due.is("match(1, -1), taught", x.match(1, NONE), 2);
+        due.is("match(1, 0), taught", x.match(1, 0), 2);
+        x.moult(2);
+        due.is("left(1, 5, 1), moulting", x.left(1, 5, 1), 1);
+        due.is("match(1, -1), moulting", x.match(1, NONE), 1);
+        due.is("when(2, 1, 3)", x.when(2, 1, 3), 0);
+        due.is("when(2, 1, 4)", x.when(2, 1, 4), NONE);
+    }
+
     // ---- of
 
     private static void tongue(ParrotSpeech x, int perch, String text, int whole, int longest) {
@@ -362,6 +392,40 @@ public final class ForetoldEdgesTest {
         tongue(x, 0, "(ab|a)*", 1, 16);
         tongue(x, 0, "(aba)*", 0, 3);
         tongue(x, 0, "(...)*", 0, 15);
+    }
+
+    private static void ofDeepBrackets() {
+        due.promise("25 of, PART is ( SUM ), ( 6 deep");
+        ParrotSpeech x = Due.harbour(LINE);
+        tongue(x, 0, "((((((a))))))", 0, 1);
+        tongue(x, 0, "((((((ab))))))*", 1, 16);
+        tongue(x, 0, "(a(b(a(b(a(b))))))", 0, 6);
+        tongue(x, 0, "((((((a)b)a)b)a)b)", 0, 6);
+        tongue(x, 0, "(c|(c|(c|(c|(c|(a|c))))))b", 0, 2);
+        tongue(x, 0, "((((((a|c)|c)|c)|c)|c)|c)b", 0, 2);
+        tongue(x, 0, "((a)(b))((a)(b))", 0, 4);
+        ParrotSpeech y = Due.harbour(LINE);
+        tongue(y, 0, "(((((( a )))))) ((((((b)))))) (a)(b)", 0, 4);
+    }
+
+    private static void ofBlanks() {
+        due.promise("25 of, each letter by itself, blanks between");
+        ParrotSpeech x = Due.harbour("cockatoo 2;knows 0 c 9;knows 0 d 8");
+        tongue(x, 2, " c  d ", 1, 2);
+        tongue(x, 2, " ( c ) * d * ", 1, 2);
+        tongue(x, 2, "a | c d | b", 1, 2);
+        tongue(x, 2, " . . ", 1, 2);
+    }
+
+    private static void ofSums() {
+        due.promise("25 of, SUM is ROW, perhaps |, ROW ..");
+        ParrotSpeech x = Due.harbour("parrot 0;parrot 1;parrot 2;parrot 3;knows 0 a 9;knows 1 b 9;knows 2 c 9;knows 3 d 9");
+        for (int perch = 0; perch < 4; perch++) {
+            tongue(x, perch, "a|b|c|d", 1, 1);
+            tongue(x, perch, "(a|b|c|d)", 1, 1);
+            tongue(x, perch, "a|b|c", perch < 3 ? 1 : 0, perch < 3 ? 1 : NONE);
+            tongue(x, perch, "b|c|d|j", perch > 0 ? 1 : 0, perch > 0 ? 1 : NONE);
+        }
     }
 
     private static void ofLongest() {

@@ -136,6 +136,11 @@ public final class TextEdgesTest {
             faulty(earlier, word.substring(1) + rests[i], 0);
             faulty(earlier, word.substring(0, 1).toUpperCase() + word.substring(1) + rests[i], 0);
             faulty(earlier, word.substring(0, 2) + " " + word.substring(2) + rests[i], 0);
+            faulty(earlier, word + "a" + rests[i], 0);
+            faulty(earlier, word + "z" + rests[i], 0);
+            for (int at = 0; at < word.length(); at++) {
+                faulty(earlier, word.substring(0, at) + "z" + word.substring(at + 1) + rests[i], 0);
+            }
             faulty(earlier, word + rests[i] + " 0", word.length() + rests[i].length() + 1);
             faulty(earlier, word + rests[i] + " " + word + rests[i], word.length() + rests[i].length() + 1);
         }
@@ -427,9 +432,11 @@ public final class TextEdgesTest {
             tongueStands(standing[i], words[i]);
         }
         String[] faulty = {"k", "z", "0", "`", "A", "J", ";", "a0", "a;", "ak", "", " ", "   ", "|", "|a", "a|", "a| ", "a||b", "a|*",
-            "*", "**", "a**", "a* *", "a(*b)", "()", "( )", "(", "( ", "(a", "(a ", "(a|", "(a|)", "(|a)", "a)", ")", "(a))", "(a)**", "(a)b*)"};
+            "*", "**", "a**", "a* *", "a(*b)", "()", "( )", "(", "( ", "(a", "(a ", "(a|", "(a|)", "(|a)", "a)", ")", "(a))", "(a)**", "(a)b*)",
+            "a()", "a(|b)", "a*()", "a|()"};
         int[] places = {0, 0, 0, 0, 0, 0, 0, 1, 1, 1, 0, 1, 3, 0, 0, 2, 3, 2, 2,
-            0, 0, 2, 3, 2, 1, 2, 1, 2, 2, 3, 3, 3, 1, 1, 0, 3, 4, 5};
+            0, 0, 2, 3, 2, 1, 2, 1, 2, 2, 3, 3, 3, 1, 1, 0, 3, 4, 5,
+            2, 2, 3, 3};
         due.is("the tables' lengths", faulty.length, places.length);
         for (int i = 0; i < faulty.length; i++) {
             tongueFaulty(faulty[i], places[i]);
