@@ -406,6 +406,8 @@ public final class ForetoldEdgesTest {
         tongue(x, 0, "((a)(b))((a)(b))", 0, 4);
         ParrotSpeech y = Due.harbour(LINE);
         tongue(y, 0, "(((((( a )))))) ((((((b)))))) (a)(b)", 0, 4);
+        // Two hundred letters, and the last of them counts.
+        tongue(y, 0, "j|".repeat(99) + "ab", 0, 2);
     }
 
     private static void ofBlanks() {
