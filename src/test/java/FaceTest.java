@@ -27,6 +27,9 @@ public final class FaceTest {
         "NONE", "UNKNOWN", "OUTSIDE", "NOT", "FULL", "NULL", "CAST", "STORE", "INDEX", "EMPTY", "SIZE",
     };
 
+    private static final Set<String> LIBRARY = Set.of("Integer.bitCount", "Integer.numberOfTrailingZeros", "Math.max",
+        "Math.min", "System.arraycopy");
+
     public static void main(String[] args) throws IOException {
         methods();
         fieldsAndConstructors();
@@ -110,6 +113,10 @@ public final class FaceTest {
         }
         due.that("no lambda", !bare.contains("->"));
         due.that("no method reference", !bare.contains("::"));
+        Matcher library = Pattern.compile("\\b(?!ParrotSpeech\\b|Text\\b|Tongue\\b)([A-Z][a-z]\\w*\\.\\w+)").matcher(bare);
+        while (library.find()) {
+            due.that(library.group() + " is of the library that is left", LIBRARY.contains(library.group()));
+        }
         due.that("no static block", !Pattern.compile("\\bstatic\\s*\\{").matcher(bare).find());
         Matcher methods = Pattern.compile("(?ms)^( +)(?:public |private |static )*\\w+ \\w+\\([^)]*\\) \\{\n(.*?)^\\1\\}").matcher(source);
         int found = 0;
